@@ -8,6 +8,8 @@ import java.util.regex.Pattern;
 public final class LanguageTest {
     private static final String SOURCE = "src/main/java/OrderedKeys.java";
     private static final int MOST_LINES = 60;
+    private static final Pattern CALL =
+            Pattern.compile("\\b(?!(?:if|for|while|switch|return)\\b)[A-Za-z]\\w*\\s*\\(");
 
     private static int wrong = 0;
 
@@ -20,7 +22,7 @@ public final class LanguageTest {
         absent(source, 4, "\\bnull\\b|\\bnew\\s+\\w+\\s*\\(|\\.length\\b");
         absent(source, 5, "\\bstatic\\s*\\{|\\bstatic\\b[^;({]*\\[");
         absent(source, 6, "\\b(throw|throws|try|catch|synchronized|assert|instanceof)\\b|->|::");
-        absent(source, 10, "\\b(?!if\\b|for\\b|while\\b|switch\\b|return\\b)\\w+\\((?:[^()]|\\([^()]*\\))*?\\w\\(");
+        noCallInsideArguments(source);
         arraysAreMadeByFields(source);
         methodsStayShort(source);
         System.out.println(wrong == 0 ? "the rules are kept" : wrong + " rules are broken");
@@ -43,6 +45,30 @@ public final class LanguageTest {
         while (found.find()) {
             fault(rule, found.group());
         }
+    }
+
+    private static void noCallInsideArguments(String source) {
+        Matcher call = CALL.matcher(source);
+        while (call.find()) {
+            String arguments = source.substring(call.end(), closing(source, call.end()));
+            if (CALL.matcher(arguments).find()) {
+                fault(10, call.group() + arguments + ")");
+            }
+        }
+    }
+
+    /** Where the parenthesis that was opened just before this place is closed. */
+    private static int closing(String source, int place) {
+        int open = 1;
+        int i = place;
+        while (i < source.length()) {
+            open += source.charAt(i) == '(' ? 1 : source.charAt(i) == ')' ? -1 : 0;
+            if (open == 0) {
+                break;
+            }
+            i++;
+        }
+        return i;
     }
 
     private static void arraysAreMadeByFields(String source) {

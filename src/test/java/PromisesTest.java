@@ -25,6 +25,7 @@ public final class PromisesTest {
         addOrdersLongTexts();
         addOrdersByFirstDifference();
         addKeepsEqualTuplesByTime();
+        addKeepsAllFieldsOfAllEntries();
         addWhenFull();
         remove();
         load();
@@ -364,6 +365,25 @@ public final class PromisesTest {
         due("second null", empty.add(2), 1);
         due("third null", empty.add(1), 2);
         dueTags("equal nulls", empty, 3, 2, 1);
+    }
+
+    private static void addKeepsAllFieldsOfAllEntries() {
+        OrderedKeys x = new OrderedKeys(4, schemaOf(INT, INT, INT, TEXT));
+        for (int i = 0; i < CAPACITY; i++) {
+            x.setInt(0, i);
+            x.setInt(1, 100 + i);
+            x.setInt(2, 200 + i);
+            stageText(x, 3, i, 255 - i);
+            due("add " + i, x.add(300 + i), i);
+        }
+        for (int i = 0; i < CAPACITY; i++) {
+            due("entry " + i + ": field 0", x.intAt(i, 0), i);
+            due("entry " + i + ": field 1", x.intAt(i, 1), 100 + i);
+            due("entry " + i + ": field 2", x.intAt(i, 2), 200 + i);
+            due("entry " + i + ": field 3", x.charAt(i, 3, 0), i);
+            due("entry " + i + ": field 3", x.charAt(i, 3, 1), 255 - i);
+            due("entry " + i + ": tag", x.tag(i), 300 + i);
+        }
     }
 
     private static void addWhenFull() {
