@@ -281,6 +281,7 @@ public final class OrderedKeys {
         if (values[a] == values[b]) {
             return 0;
         }
-        return values[a] < values[b] != isSet(field, DESCENDING) ? -1 : 1;
+        boolean smaller = values[a] < values[b];
+        return smaller != isSet(field, DESCENDING) ? -1 : 1;
     }
 }
