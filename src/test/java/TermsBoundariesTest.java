@@ -226,20 +226,27 @@ public final class TermsBoundariesTest {
 
     private static void stageCells() {
         Due.sentence("Tuples are put together in a STAGE with one cell for each field");
-        int schema = Tuples.schema(Due.INT, Due.TEXT, Due.TEXT, Due.INT);
+        Object[] nulls = {null, null, null, null};
         Object[] full = {1, Tuples.repeated(2, 6), Tuples.repeated(3, 6), 4};
         Object[] other = {Due.MAX, Tuples.text(), Tuples.text(0), Due.MIN};
         for (int f = 0; f < 4; f++) {
-            for (Object value : new Object[] {null, other[f]}) {
-                OrderedKeys x = new OrderedKeys(4, schema);
-                Tuples.stage(x, full);
-                Tuples.stageField(x, f, value);
-                x.add(1);
-                Object[] due = full.clone();
-                due[f] = value;
-                Tuples.dueTuple(x, 0, due);
-            }
+            dueOneCell(nulls, f, full[f]);
+            dueOneCell(nulls, f, null);
+            dueOneCell(full, f, other[f]);
+            dueOneCell(full, f, null);
+            dueOneCell(other, f, full[f]);
         }
+    }
+
+    /** Of a stage that holds this tuple, the call on a field changes that field alone. */
+    private static void dueOneCell(Object[] tuple, int f, Object value) {
+        OrderedKeys x = new OrderedKeys(4, Tuples.schema(Due.INT, Due.TEXT, Due.TEXT, Due.INT));
+        Tuples.stage(x, tuple);
+        Tuples.stageField(x, f, value);
+        x.add(1);
+        Object[] due = tuple.clone();
+        due[f] = value;
+        Tuples.dueTuple(x, 0, due);
     }
 
     private static void badFieldFirst() {
